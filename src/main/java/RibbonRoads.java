@@ -361,7 +361,7 @@ public final class RibbonRoads {
         search.findShort(here, now, d);
         long bits = 0;
         // What every way needs, the short way needs too: only its cells can be needed.
-        long asked = search.cellsOf(k) & ~(1L << k);
+        long asked = search.passed[k] & ~(1L << k);
         for (int c = 0; c < here.cells(); c++) {
             if ((asked >>> c & 1) == 1 && !search.reachesWithout(k, c)) {
                 bits |= 1L << c;
@@ -1729,12 +1729,15 @@ public final class RibbonRoads {
 
     /** Searches the ways of one drum from the end of its ribbon on. */
     static final class Ways {
-        // By cell: the least that a way costs (NONE: there is none), how many cells it has, its turns.
+        // By cell: the least that a way costs (NONE: there is none), how many cells it has.
         final int[] least = new int[MOST_CELLS];
         final int[] steps = new int[MOST_CELLS];
+        // The cells of that way, without the one where it begins, as bits.
+        final long[] passed = new long[MOST_CELLS];
         // Two bits a turn, the first one highest: of ways alike in length the lesser is first by turns.
         private final long[] turns = new long[MOST_CELLS];
         private final int[] newLeast = new int[MOST_CELLS];
+        private final long[] newPassed = new long[MOST_CELLS];
         private final long[] newTurns = new long[MOST_CELLS];
         private final int[] costs = new int[MOST_CELLS];
         // Where the turns from a cell lead, those of each cell one behind the other.
@@ -1745,6 +1748,8 @@ public final class RibbonRoads {
         private int longest;
         private long open;
         private long crossed;
+        private long eastEdge;
+        private long westEdge;
 
         boolean comesTo(int k) {
             return least[k] != NONE;
@@ -1758,10 +1763,14 @@ public final class RibbonRoads {
             longest = MOST_LAID - state.lengths[d];
             open = 0;
             crossed = 0;
+            eastEdge = 0;
+            westEdge = 0;
             for (int k = 0; k < cells; k++) {
                 for (int turn = 1; turn <= TURNS; turn++) {
                     leads[k * TURNS + turn - 1] = land.beside(k, turn);
                 }
+                eastEdge |= leadOf(k, 2) == NONE ? 1L << k : 0;
+                westEdge |= leadOf(k, 4) == NONE ? 1L << k : 0;
                 int lying = state.lying(k);
                 if (state.isOpen(land, d, k) && land.mayLie(d, k, state.wet, lying)) {
                     open |= 1L << k;
@@ -1793,6 +1802,7 @@ public final class RibbonRoads {
         private void find() {
             Arrays.fill(least, NONE);
             Arrays.fill(steps, 0);
+            Arrays.fill(passed, 0L);
             Arrays.fill(turns, 0L);
             least[start] = 0;
             long edge = 1L << start;
@@ -1809,6 +1819,7 @@ public final class RibbonRoads {
                     int to = leadOf(k, turn);
                     if (isIn(open, to) && betters(k, turn, to, found)) {
                         newLeast[to] = least[k] + costs[to];
+                        newPassed[to] = passed[k] | 1L << to;
                         newTurns[to] = withTurn(turns[k], turn);
                         found |= 1L << to;
                     }
@@ -1817,6 +1828,7 @@ public final class RibbonRoads {
             for (int k = 0; k < cells; k++) {
                 if (isIn(found, k)) {
                     least[k] = newLeast[k];
+                    passed[k] = newPassed[k];
                     turns[k] = newTurns[k];
                     steps[k] = step;
                 }
@@ -1847,22 +1859,11 @@ public final class RibbonRoads {
             return 1 + (int) (turns[k] >>> 2 * (steps[k] - 1 - i) & 3);
         }
 
-        /** Cells of the way found, without the one where it begins. */
-        long cellsOf(int k) {
-            long bits = 0;
-            int at = start;
-            for (int i = 0; i < steps[k] && at != NONE; i++) {
-                at = leadOf(at, turnOf(k, i));
-                bits |= at == NONE ? 0 : 1L << at;
-            }
-            return bits;
-        }
-
         /** Cells to which the way found comes by all of some. */
         long endsBy(long some) {
             long bits = 0;
             for (int k = 0; k < cells; k++) {
-                if ((cellsOf(k) & some) == some) {
+                if ((passed[k] & some) == some) {
                     bits |= 1L << k;
                 }
             }
@@ -1880,14 +1881,8 @@ public final class RibbonRoads {
         }
 
         private long besideAll(long bits) {
-            long all = 0;
-            for (int k = 0; k < cells; k++) {
-                for (int turn = 1; turn <= TURNS && isIn(bits, k); turn++) {
-                    int to = leadOf(k, turn);
-                    all |= to == NONE ? 0 : 1L << to;
-                }
-            }
-            return all;
+            long northSouth = bits >>> wide | bits << wide;
+            return northSouth | (bits & ~eastEdge) << 1 | (bits & ~westEdge) >>> 1;
         }
 
         /** How many ways of n cells there are to a cell. */
@@ -1928,6 +1923,9 @@ public final class RibbonRoads {
 
     /** Which ribbons lie over which. */
     static final class Piles {
+        // Far above the crossings that a land has cells for.
+        private static final int UNKNOWN = 1000;
+
         // By drum: those that lie over it, as bits.
         final int[] overs = new int[MOST_DRUMS];
         // How often a lies over b, at a * 6 + b.
@@ -1974,12 +1972,12 @@ public final class RibbonRoads {
         }
 
         int fewestTurned() {
-            Arrays.fill(known, Integer.MAX_VALUE);
+            Arrays.fill(known, UNKNOWN);
             known[0] = 0;
             for (int in = 0; in < lying; in++) {
                 int left = lying & ~in;
                 for (int d = 0; d < MOST_DRUMS; d++) {
-                    if (known[in] != Integer.MAX_VALUE && (left >> d & 1) == 1) {
+                    if (known[in] != UNKNOWN && (left >> d & 1) == 1) {
                         int then = in | 1 << d;
                         known[then] = Math.min(known[then], known[in] + timesUnder(d, left));
                     }

@@ -126,6 +126,7 @@ public final class LandTest {
         fault("land 2 3;drum 1 2 yards 1 1;", 2, 26);
         fault("land 2 2;wet 9;wet 10;", 3, 19);
         fault("land 2 2;wet x;", 2, 13);
+        fault("land 2 2;wet 0;hour 0;drum 0 0 yards 0;rock 1 0;", 0, -1);
         fault("land 2 2;hour 999;hour 1000;", 1, 23);
         fault("land 2 2;hour ;", 2, 14);
         String six = "land 6 6;drum 0 0 yards 1;drum 1 0 yards 1;drum 2 0 yards 1;"
@@ -134,6 +135,35 @@ public final class LandTest {
         fault(six + "drum", 4, six.length());
         fault(six + "drum 9 9", 4, six.length());
         fault(six + "drums", 2, six.length());
+    }
+
+    /** The text ends behind its n bytes, whatever the tape has there; its tokens may all be of one byte. */
+    private static void cutTexts() {
+        String tape = "land 2 2;wet 12;hour 345;takes:wet;rock 1 1;";
+        int[] ends = {2, 4, 6, 8, 9, 11, 12, 14, 15, 16, 18, 20, 22, 23, 27, 30, 32, 33, 34, 35};
+        int[] kinds = {2, 2, 2, 2, 0, 2, 2, 2, 3, 3, 3, 3, 3, 3, 3, 3, 3, 3, 3, 3};
+        int[] places = {0, 4, 6, 8, -1, 9, 12, 14, 13, 13, 13, 13, 13, 13, 13, 13, 13, 13, 13, 13};
+        for (int i = 0; i < ends.length; i++) {
+            RibbonRoads r = new RibbonRoads();
+            Check.feed(r, tape);
+            due("land(" + ends[i] + ")", r.land(ends[i]), kinds[i] == 0 ? 1 : -30 - kinds[i]);
+            due("cut at " + ends[i], r.fault(1), places[i]);
+        }
+        RibbonRoads r = new RibbonRoads();
+        Check.feed(r, "land 2 2;wet 1000;");
+        due("three digits of four", r.land(16), -33);
+        Check.feed(r, "land 2 2;hour 1000;");
+        due("three digits of four", r.land(17), -32);
+        due("the end", r.fault(1), 17);
+        Check.feed(r, "land 2 2;takes:wets;");
+        due("the word ends with the text", r.land(18), -32);
+        due("the end", r.fault(1), 18);
+        fault(";".repeat(900), 2, 0);
+        fault("land 2 2;takes:" + "1+".repeat(442) + "1", 2, 900);
+        RibbonRoads full = Check.told("land 2 2;drum 0 0 yards 9;takes:" + "1+".repeat(433) + "1;");
+        due("434 is 99 at most", full.takes(0, 0), 99);
+        full = Check.told("land 2 2;drum 0 0 yards 9;takes:" + "1-1+".repeat(216) + "5;");
+        due("5", full.takes(0, 0), 5);
     }
 
     private static void lawFaults() {
@@ -183,6 +213,8 @@ public final class LandTest {
         fault(m + "notx=1;", 2, 13);
         fault(m + "not x=1", 2, 20);
         fault("land 2 2;may x=1;", 2, 13);
+        fault(m + "lies=0;takes:lies;", 2, 26);
+        fault(t + "x;may:lies=0;may:x=0;takes:y;", 0, -1);
     }
 
     private static void cellsAndDrums() {
@@ -302,6 +334,7 @@ public final class LandTest {
         feeding();
         faultStays();
         faults();
+        cutTexts();
         lawFaults();
         cellsAndDrums();
         travellers();

@@ -205,14 +205,16 @@ public final class SlowRoadsTest {
         return all.toString();
     }
 
+    /** Behind the text the tape goes on with what could be read on. */
     private void tell(String text) {
+        String rest = "x1;s(0 ";
         for (int at = 0; at < text.length(); at += 20) {
             Object[] five = new Object[5];
             for (int i = 0; i < 5; i++) {
                 int four = 0;
                 for (int j = 0; j < 4; j++) {
                     int c = at + 4 * i + j;
-                    four = four << 8 | (c < text.length() ? text.charAt(c) : ' ');
+                    four = four << 8 | (c < text.length() ? text.charAt(c) : rest.charAt(random.nextInt(rest.length())));
                 }
                 five[i] = four;
             }
