@@ -3,7 +3,6 @@ import java.util.function.Supplier;
 /** Boundary cases of promises 10 to 18: deeds one by one, and undoing them. */
 public final class EdgesDeedsTest {
     private static final Edges EDGES = new Edges("EdgesDeedsTest");
-    private static final int[] FAR = {Integer.MIN_VALUE, -1000, 1000, Integer.MAX_VALUE};
 
     private static void due(int promise, String words, long got, long want) {
         EDGES.due(promise, words, got, want);
@@ -150,10 +149,10 @@ public final class EdgesDeedsTest {
         can("without a law: always", told("land 3 3;drum 0 0 yards 9;"), 0, 2, 8);
         can("the law holds", told("land 3 3;drum 0 0 yards 9;may:x=1 and y=0 and wet=0 and drum=0 and lies=0;"), 0, 2, 8);
         cannot("3: it MAY not", told("land 3 3;drum 0 0 yards 9;may:not x=1;"), 0, 2, 3);
-        for (String law : new String[] {"x<1", "x>1", "x<x", "x>x", "lies>0", "lies<0", "wet<0", "0>1", "1<0"}) {
+        for (String law : new String[] {"not x=1", "not not x=2", "not[x=1 or x=2]", "x=1 and y=1", "y=1 or x=2", "x<1", "x>1", "x<x", "x>x", "lies>0", "lies<0", "wet<0", "0>1", "1<0"}) {
             cannot("3: " + law, told("land 3 3;drum 0 0 yards 9;may:" + law + ";"), 0, 2, 3);
         }
-        for (String law : new String[] {"x<2", "x>0", "x=x", "lies<1", "wet<1", "0<1", "1>0", "0=0"}) {
+        for (String law : new String[] {"not not x=1", "not not not x=2", "not[not x=1]", "[[x=1]]", "x<2", "x>0", "x=x", "lies<1", "wet<1", "0<1", "1>0", "0=0"}) {
             can(law, told("land 3 3;drum 0 0 yards 9;may:" + law + ";"), 0, 2, 8);
         }
         can("just so many YARDS", told("land 3 3;drum 0 0 yards 5;takes:5;"), 0, 2, 0);
@@ -219,6 +218,26 @@ public final class EdgesDeedsTest {
         r.setOut(0);
         r.hours(1);
         due(12, "who ARRIVED is not there", r.back(0), 50);
+        firstCell();
+    }
+
+    /** The first cell of all is one as others are. */
+    private static void firstCell() {
+        Supplier<RibbonRoads> maker = () -> {
+            RibbonRoads r = Check.told("land 3 3;drum 1 0 yards 9;drum 0 1 yards 9;");
+            Check.layOver(r, 0, "4");
+            Check.layOver(r, 1, "1");
+            return r;
+        };
+        EDGES.refused(12, "3: one lies over it there, CELL 0", maker, r -> r.back(0), -13);
+        EDGES.refused(13, "3: one lies over it there, CELL 0", maker, r -> r.takeIn(0), -13);
+        RibbonRoads r = maker.get();
+        due(29, "over it on CELL 0", r.above(0), 2);
+        due(31, "over it on CELL 0", r.order(0), 1);
+        due(49, "crossings: CELL 0", r.count(4), 1);
+        due(49, "RIBBONS that lie, on one CELL each", r.count(5), 2);
+        due(15, "TURNED on CELL 0", r.turn(0), 0);
+        due(12, "none lies over it any more", r.back(0), 9);
     }
 
     /** "2: likewise; 3: one lies over it anywhere; 4: a TRAVELLER is on it, at its DRUM, too". */
@@ -252,7 +271,12 @@ public final class EdgesDeedsTest {
             return b;
         }, b -> b.takeIn(0), -14);
         due(13, "the TRAVELLER on the crossing goes on, as do the others", r.hours(2), 3);
-        due(13, "who ARRIVED is on none; others are on other ribbons", r.takeIn(0), 20);
+        due(13, "who ARRIVED is on none", r.takeIn(0), 20);
+        r = begun();
+        r.back(1);
+        r.back(0);
+        due(13, "TRAVELLERS on other RIBBONS, at other DRUMS hold it not", r.lay(3, 3, true), 18);
+        due(13, "TRAVELLERS on other RIBBONS, at other DRUMS hold it not", r.takeIn(3), 20);
         r = Check.told("land 6 6;drum 0 0 yards 16;");
         Check.layOver(r, 0, "2222234444432222");
         due(13, "all 16 CELLS", r.takeIn(0), 16);
@@ -284,6 +308,17 @@ public final class EdgesDeedsTest {
         RibbonRoads r = eight.get();
         r.undo(1);
         due(14, "an eighth again", r.setOut(0), 7);
+        r = Check.told("land 4 2;drum 0 0 yards 9;");
+        Check.layOver(r, 0, "22");
+        r.setOut(0);
+        r.setOut(0);
+        r.hours(1);
+        due(8, "the second WAITED", r.traveller(1, 3), 1);
+        r.undo(2);
+        r.setOut(0);
+        due(14, "another second one: it has not WAITED yet", r.traveller(1, 3), 0);
+        due(14, "nor gone", r.traveller(1, 1), -1);
+        due(14, "nor ARRIVED", r.traveller(1, 2), 0);
     }
 
     /** "-2: no such CELL; -5: no two lie there". */
@@ -397,6 +432,14 @@ public final class EdgesDeedsTest {
         r.numbers(0, 0, 0);
         due(18, "an empty TRAY", r.perform(0), 0);
         due(18, "calls that did none", r.count(10), 1);
+        r = Check.told("land 3 2;drum 0 0 yards 9;takes:1+wet;");
+        Check.layOver(r, 0, "2");
+        r.back(0);
+        r.rain(5);
+        due(18, "LAID again, wet", r.lay(0, 2, true), 3);
+        due(18, "UNDONE", r.undo(3), 1);
+        due(18, "YARDS that lie, as it was LAID first", r.drum(0, 4), 1);
+        due(18, "BACK: as many more as that took", r.back(0), 9);
     }
 
     public static void main(String[] args) {
@@ -411,9 +454,6 @@ public final class EdgesDeedsTest {
         rainAndHours();
         undo();
         undoEach();
-        for (int far : FAR) {
-            due(10, "far", begun().why(far, far), 1);
-        }
         EDGES.end(10, 18);
     }
 }

@@ -183,6 +183,27 @@ public final class EdgesLandTest {
         due(3, "WET (0)", r.count(8), 0);
         due(3, "HOUR (0)", r.count(9), 0);
         due(3, "numbered from 0 on again", r.lay(0, 2, true) + r.setOut(0), 19);
+        r = Check.told("land 5 3;drum 0 1 yards 20;drum 1 0 yards 30;takes:9;may:1=2;");
+        Check.tell(r, "land 5 3;drum 0 1 yards 7;");
+        due(3, "the law may is gone: always", r.why(0, 2), 0);
+        Check.tell(r, "land 5 3;drum 0 1 yards 7;may:not x=1;");
+        due(3, "another law may", r.why(0, 2), 3);
+        Check.tell(r, "land 5 3;drum 0 1 yards 7;may:x=1;");
+        due(3, "nothing is left of a longer law may", r.why(0, 2), 0);
+        Check.tell(r, "land 5 3;drum 0 1 yards 7;");
+        due(3, "the law takes is gone: 1", r.takes(0, 6), 1);
+        r.numbers(0, 0, 0);
+        due(19, "YARDS of all DRUMS there are now", r.judge(0, 2), 7);
+        for (int i = 0; i < 2; i++) {
+            Check.layOver(r, 0, "22");
+            r.setOut(0);
+            r.setOut(0);
+            due(3, "nobody has WAITED yet", r.traveller(1, 3), 0);
+            due(3, "nobody has gone yet", r.traveller(0, 1), -1);
+            r.hours(1);
+            due(3, "the second WAITED", r.traveller(1, 3), 1);
+            Check.tell(r, "land 5 3;drum 0 1 yards 7;");
+        }
     }
 
     /** Promise 4: "Of the latest land() that was read"; "NONE for others". */

@@ -86,6 +86,12 @@ public final class EdgesOverUnderTest {
             due(32, "none is STUCK", r.stuck(), 0);
             due(33, "none to be TURNED", r.twists(), 0);
         }
+        for (int d = 0; d < 6; d++) {
+            r.takeIn(d);
+            due(31, "what was TAKEN IN lies no more", r.order(0), d < 5 ? d + 1 : -1);
+            due(31, "so many are left", r.order(5 - d), -1);
+        }
+        due(34, "nothing lies: one order", r.orders(), 1);
     }
 
     private static void chains() {

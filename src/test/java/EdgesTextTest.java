@@ -30,6 +30,8 @@ public final class EdgesTextTest {
         EDGES.due(49, "the last of 900 bytes counts", r.count(8), 8);
         bad(words, most + "wet     8", 2, 900);
         bad(words, most + "wet    8:", 2, 899);
+        bad("the last word ends with the 900 bytes: the end", most + "      wet", 2, 900);
+        bad("the last number ends with the 900 bytes: the end", most + "wet     9", 2, 900);
         bad("the end: the text's length", " ".repeat(900), 2, 900);
         bad("the end: the text's length", "", 2, 0);
         bad("the end: the text's length", " ", 2, 1);
@@ -149,6 +151,10 @@ public final class EdgesTextTest {
         r = good("later ones strike", LAND + "drum 0 0 yards 9;may:1=1;takes:x*2+1;takes:3;takes:2;may:x=x and y=y;may:x=2;", 8);
         EDGES.due(9, "the third takes, which is shorter", r.takes(0, 4), 2);
         EDGES.due(10, "the third may, which is shorter", r.why(0, 2), 3);
+        r = good("later ones strike", LAND + "drum 0 0 yards 9;may:not x=1;may:x=1;", 4);
+        EDGES.due(10, "nothing is left of a longer may", r.why(0, 2), 0);
+        r = good("later ones strike", LAND + "drum 0 0 yards 9;may:x=1 and not x=1;may:x=1;", 4);
+        EDGES.due(10, "nothing is left of a longer may", r.why(0, 2), 0);
         r = good("laws strike ahead of drums told behind them", LAND + "takes:5;drum 0 0 yards 4;", 3);
         EDGES.due(10, "laws strike ahead of drums told behind them", r.why(0, 2), 4);
     }
@@ -174,6 +180,29 @@ public final class EdgesTextTest {
         bad("numbers go on", "land 53;", 3, 5);
         bad("a word ends at a blank", "la nd 5 3;", 2, 0);
         bad("a number ends at a blank", "land 5 3;hour 1 0;", 2, 16);
+    }
+
+    /** "The first n bytes of THE TAPE": a token ends with them, whatever stands behind. */
+    private static void cutTokens() {
+        cut("land 5 3;wet 19;", 14, -32, 14);
+        cut("land 5 3;hour 1234;", 17, -32, 17);
+        cut("land 5 3;hour 1234;", 18, -31, 14);
+        cut("land 53;", 6, -32, 6);
+        cut("lands 5 3;", 4, -32, 4);
+        cut("lands 5 3;", 5, -32, 0);
+        cut("land 5 3;wets 1;", 12, -32, 12);
+        cut("land 5 3;wets 1;", 13, -32, 9);
+        cut("land 5 3;takes:xy;", 16, -32, 16);
+        cut("land 5 3;wet 9;!", 15, 2, -1);
+        cut("land 5 3;wet 9;!", 16, -31, 15);
+        cut("land 5 3;wet 9;wet 10;", 15, 2, -1);
+    }
+
+    private static void cut(String tape, int n, int answer, int place) {
+        RibbonRoads r = new RibbonRoads();
+        Check.feed(r, tape);
+        EDGES.due(3, "the first " + n + " bytes of " + tape, r.land(n), answer);
+        EDGES.due(4, "the first " + n + " bytes of " + tape, r.fault(1), place);
     }
 
     /** "N (1 to 3 digits)"; "1 no TOKEN begins so (4 digits and more: at their first)". */
@@ -214,6 +243,16 @@ public final class EdgesTextTest {
         bad("land must be told once", "land 5 3;land 5 3;", 2, 9);
         bad("land must be told once", "land 5 3;wet 1;land 5 3;", 2, 15);
         bad("an empty LINE", "land 5 3;;", 2, 9);
+        String[] tooShort = {"land;", "land 5;", LAND + "rock;", LAND + "rock 1;", LAND + "drum;", LAND + "drum 1;", LAND + "drum 1 1;",
+            LAND + "drum 1 1 yards;", LAND + "wet;", LAND + "hour;", LAND + "takes;", LAND + "takes:;", LAND + "may;", LAND + "may:;"};
+        for (String text : tooShort) {
+            bad("a LINE that ends too early", text, 2, text.length() - 1);
+        }
+        String[] tooLong = {"land 5 3 1;", LAND + "rock 1 1 1;", LAND + "drum 1 1 yards 1 1;", LAND + "wet 1 1;", LAND + "hour 1 1;",
+            LAND + "takes:1 1;", LAND + "may:1=1 1;"};
+        for (String text : tooLong) {
+            bad("a LINE that ends too late", text, 2, text.length() - 2);
+        }
         bad("a LINE without its ;", "land 5 3;wet 1 hour 1;", 2, 15);
         for (String word : new String[] {"lies", "not", "and", "or", "[", "=", "<", ">", "]", "takes", "yards", "land"}) {
             bad("a word of the other law", LAND + "takes:" + word + ";", 2, 15);
@@ -325,6 +364,7 @@ public final class EdgesTextTest {
         sixDrums();
         laterOnes();
         blanks();
+        cutTokens();
         digits();
         places();
         sixWithin();

@@ -209,6 +209,8 @@ public final class EdgesTraysTest {
         due(48, "what isn't in it stays: THE TAPE", r.restore(0) + r.count(11), 20);
         due(48, "what isn't in it stays: TRAYS", r.write(0, 0, 1), -7);
         due(48, "what isn't in it stays: TRAYS", r.write(3, 0, 1), -6);
+        due(48, "nothing can be UNDONE behind, though the land is the same", r.count(10), 0);
+        due(48, "nothing can be UNDONE behind, though the land is the same", r.undo(1), -3);
         due(48, "the other IMAGE stays", r.restore(1), 0);
         due(48, "as it was", r.count(9), 7);
         r = new RibbonRoads();

@@ -199,6 +199,20 @@ public final class EdgesWaysTest {
         due(27, "bits above 31", r.needed(0, 35), Check.bits(11, 17, 23, 29));
         r = Check.told("land 6 6;drum 4 5 yards 99;drum 0 4 yards 9;may:y=5;");
         due(27, "bits above 31", r.needed(0, 30), Check.bits(31, 32, 33));
+        // Round a ring from its first cell both ways: to the east, to the south.
+        r = Check.told("land 3 3;rock 1 1;drum 0 0 yards 9;");
+        due(27, "two WAYS round", r.needed(0, 8), 0);
+        due(27, "two WAYS round", r.needed(0, 6), 0);
+        due(27, "two WAYS round", r.needed(0, 2), 0);
+        Check.tell(r, "land 6 2;drum 0 0 yards 9;may:y=0 or x>3;");
+        due(27, "a wider land: its rows are longer", r.needed(0, 5), Check.bits(1, 2, 3, 4));
+        due(27, "a wider land: two WAYS behind", r.needed(0, 11), Check.bits(1, 2, 3, 4));
+        Check.tell(r, "land 6 3;rock 1 1;rock 2 1;rock 3 1;rock 4 1;drum 0 0 yards 9;");
+        due(27, "a wider land: two WAYS round", r.needed(0, 17), 0);
+        Check.tell(r, "land 3 6;drum 2 0 yards 9;");
+        due(27, "a narrow land", r.needed(0, 15), 0);
+        Check.tell(r, "land 6 2;drum 5 0 yards 9;");
+        due(27, "a wider land, to the west: two WAYS", r.needed(0, 0), 0);
         // The east edge does not lead to the next row's west edge, nor back.
         r = Check.told("land 3 3;drum 2 0 yards 9;may:x=2 or y=2;");
         due(27, "no way over the edge", r.needed(0, 6), Check.bits(5, 7, 8));
@@ -248,6 +262,16 @@ public final class EdgesWaysTest {
         due(23, "the SHORT WAY crosses", r.fewest(0, 7), 2);
         due(26, "so does every other to that CELL", r.crossings(0, 7), 1);
         due(26, "but round it there is one", r.crossings(0, 8), 0);
+        r = Check.told("land 6 2;drum 0 0 yards 9;drum 2 1 yards 9;may:y=0 or drum=1;");
+        Check.layOver(r, 1, "1");
+        due(26, "one lies in the way", r.crossings(0, 5), 1);
+        r.takeIn(1);
+        due(26, "none lies there any more", r.crossings(0, 5), 0);
+        r = Check.told("land 3 3;drum 1 1 yards 9;drum 1 0 yards 9;");
+        due(26, "nothing lies on the first CELL", r.crossings(0, 0), 0);
+        Check.layOver(r, 1, "4");
+        due(26, "one lies on the first CELL", r.crossings(0, 0), 1);
+        due(26, "nothing lies on the last CELL", r.crossings(0, 8), 0);
     }
 
     /** "How many WAYS of just n CELLS (0 to 8)": no cell twice. */
