@@ -60,24 +60,25 @@ public final class EdgesTextTest {
         bad(words, "land 2 999;", 3, 7);
     }
 
-    /** "rock, drum: x, y of a CELL", of a land 5 wide and 3 high. */
-    private static void cells() {
+    /** "rock, drum: x, y of a CELL", of a land so wide and so high. */
+    private static void cells(int wide, int high) {
         String words = "x, y of a CELL";
+        String land = "land " + wide + " " + high + ";";
         for (String line : new String[] {"rock", "drum"}) {
             String behind = line.equals("rock") ? ";" : " yards 3;";
-            for (int x = 0; x < 7; x++) {
-                for (int y = 0; y < 5; y++) {
-                    String text = LAND + line + " " + x + " " + y + behind;
-                    if (x < 5 && y < 3) {
+            for (int x = 0; x < 8; x++) {
+                for (int y = 0; y < 8; y++) {
+                    String text = land + line + " " + x + " " + y + behind;
+                    if (x < wide && y < high) {
                         RibbonRoads r = good(words, text, 2);
-                        EDGES.due(3, "CELLS by WIDE times y, and x: " + text, r.cell(5 * y + x, 0), line.equals("rock") ? 1 : 2);
+                        EDGES.due(3, "CELLS by WIDE times y, and x: " + text, r.cell(wide * y + x, 0), line.equals("rock") ? 1 : 2);
                     } else {
-                        bad(words, text, 3, x < 5 ? 16 : 14);
+                        bad(words, text, 3, x < wide ? 16 : 14);
                     }
                 }
             }
-            bad(words, LAND + line + " 999 0" + behind, 3, 14);
-            bad(words, LAND + line + " 0 999" + behind, 3, 16);
+            bad(words, land + line + " 999 0" + behind, 3, 14);
+            bad(words, land + line + " 0 999" + behind, 3, 16);
         }
     }
 
@@ -358,7 +359,11 @@ public final class EdgesTextTest {
     public static void main(String[] args) {
         wholeTape();
         wideHigh();
-        cells();
+        cells(5, 3);
+        cells(3, 5);
+        cells(2, 6);
+        cells(6, 2);
+        cells(6, 6);
         cellsOfBoth();
         numbers();
         sixDrums();
