@@ -889,19 +889,23 @@ public final class RibbonRoads {
         private final int[] values = new int[MOST_BYTES + 1];
         private final int[] places = new int[MOST_BYTES + 1];
         private int size;
+        private int passed;
+        // Of the token at hand.
+        int kind;
+        int value;
+        int place;
 
-        int kind(int i) {
-            return i >= 0 && i < size ? kinds[i] : END;
+        /** The next token is at hand; the end stays so. */
+        void next() {
+            if (passed >= 0 && passed < size && passed < kinds.length) {
+                kind = kinds[passed];
+                value = values[passed];
+                place = places[passed];
+                passed++;
+            }
         }
 
-        int value(int i) {
-            return i >= 0 && i < size ? values[i] : 0;
-        }
-
-        int place(int i) {
-            return i >= 0 && i < size ? places[i] : 0;
-        }
-
+        /** Cuts a text; its first token is at hand. */
         void cut(byte[] text, int length) {
             size = 0;
             int at = 0;
@@ -922,6 +926,8 @@ public final class RibbonRoads {
                 }
             }
             add(END, length, 0);
+            passed = 0;
+            next();
         }
 
         private int cutNumber(byte[] text, int from, int length) {
@@ -1012,7 +1018,6 @@ public final class RibbonRoads {
         int place = NONE;
         final Land land = new Land();
         private final Tokens tokens = new Tokens();
-        private int at;
         private Law law = land.takesLaw;
         private boolean inMay;
 
@@ -1020,13 +1025,12 @@ public final class RibbonRoads {
         boolean read(byte[] text, int length) {
             fault = 0;
             place = NONE;
-            at = 0;
             land.clear();
             tokens.cut(text, length);
             if (!readLand()) {
                 return false;
             }
-            for (int n = 0; n < MOST_BYTES && kind() != Tokens.END; n++) {
+            for (int n = 0; n < MOST_BYTES && tokens.kind != Tokens.END; n++) {
                 if (!readLine() || !skip(';')) {
                     return false;
                 }
@@ -1035,36 +1039,32 @@ public final class RibbonRoads {
             return true;
         }
 
-        private int kind() {
-            return tokens.kind(at);
-        }
-
         private boolean fail(int what) {
-            fault = kind() == Tokens.BAD ? NO_TOKEN : what;
-            place = tokens.place(at);
+            fault = tokens.kind == Tokens.BAD ? NO_TOKEN : what;
+            place = tokens.place;
             return false;
         }
 
         private boolean skip(int kind) {
-            if (kind() != kind) {
+            if (tokens.kind != kind) {
                 return fail(MISPLACED);
             }
-            at++;
+            tokens.next();
             return true;
         }
 
         /** The number that stands here, NONE with a fault. */
         private int readNumber(int low, int high) {
-            if (kind() != Tokens.NUMBER) {
+            if (tokens.kind != Tokens.NUMBER) {
                 fail(MISPLACED);
                 return NONE;
             }
-            int number = tokens.value(at);
+            int number = tokens.value;
             if (number < low || number > high) {
                 fail(OUT_OF_BOUNDS);
                 return NONE;
             }
-            at++;
+            tokens.next();
             return number;
         }
 
@@ -1087,7 +1087,7 @@ public final class RibbonRoads {
         }
 
         private boolean readLine() {
-            switch (kind()) {
+            switch (tokens.kind) {
                 case Tokens.ROCK: return readRock();
                 case Tokens.DRUM: return readDrum();
                 case Tokens.TAKES: return readTakes();
@@ -1099,13 +1099,13 @@ public final class RibbonRoads {
         }
 
         private boolean readWet() {
-            at++;
+            tokens.next();
             land.wet = readNumber(0, MOST_WET);
             return land.wet != NONE;
         }
 
         private boolean readHour() {
-            at++;
+            tokens.next();
             land.hour = readNumber(0, MOST_NUMBER);
             return land.hour != NONE;
         }
@@ -1116,22 +1116,22 @@ public final class RibbonRoads {
             if (x == NONE) {
                 return NONE;
             }
+            int placeOfY = tokens.place;
             int y = readNumber(0, land.high - 1);
             if (y == NONE) {
                 return NONE;
             }
             int k = land.wide * y + x;
             if (!land.hasCell(k) || land.kinds[k] != 0) {
-                // The fault stands at the y, which has been read.
-                at--;
-                fail(OUT_OF_BOUNDS);
+                fault = OUT_OF_BOUNDS;
+                place = placeOfY;
                 return NONE;
             }
             return k;
         }
 
         private boolean readRock() {
-            at++;
+            tokens.next();
             int k = readEmptyCell();
             if (k == NONE) {
                 return false;
@@ -1145,7 +1145,7 @@ public final class RibbonRoads {
             if (land.drums >= MOST_DRUMS) {
                 return fail(BEYOND_MOST);
             }
-            at++;
+            tokens.next();
             int k = readEmptyCell();
             if (k == NONE || !skip(Tokens.YARDS)) {
                 return false;
@@ -1162,7 +1162,7 @@ public final class RibbonRoads {
         }
 
         private boolean readTakes() {
-            at++;
+            tokens.next();
             law = land.takesLaw;
             law.clear();
             inMay = false;
@@ -1170,7 +1170,7 @@ public final class RibbonRoads {
         }
 
         private boolean readMay() {
-            at++;
+            tokens.next();
             law = land.mayLaw;
             law.clear();
             inMay = true;
@@ -1181,8 +1181,8 @@ public final class RibbonRoads {
             if (!readBoth(nested)) {
                 return false;
             }
-            for (int n = 0; n < MOST_BYTES && kind() == Tokens.OR; n++) {
-                at++;
+            for (int n = 0; n < MOST_BYTES && tokens.kind == Tokens.OR; n++) {
+                tokens.next();
                 if (!readBoth(nested)) {
                     return false;
                 }
@@ -1195,8 +1195,8 @@ public final class RibbonRoads {
             if (!readUnit(nested)) {
                 return false;
             }
-            for (int n = 0; n < MOST_BYTES && kind() == Tokens.AND; n++) {
-                at++;
+            for (int n = 0; n < MOST_BYTES && tokens.kind == Tokens.AND; n++) {
+                tokens.next();
                 if (!readUnit(nested)) {
                     return false;
                 }
@@ -1206,15 +1206,31 @@ public final class RibbonRoads {
         }
 
         private boolean readUnit(int nested) {
-            int first = kind();
-            if (first != Tokens.NOT && first != '[') {
-                return readComparison(nested);
+            if (tokens.kind == Tokens.NOT || tokens.kind == '[') {
+                return readNested(nested);
             }
+            if (!readSum(nested)) {
+                return false;
+            }
+            int sign = tokens.kind;
+            if (sign != '=' && sign != '<' && sign != '>') {
+                return fail(MISPLACED);
+            }
+            tokens.next();
+            if (!readSum(nested)) {
+                return false;
+            }
+            law.add(sign == '=' ? Law.EQUAL : sign == '<' ? Law.LESS : Law.MORE);
+            return true;
+        }
+
+        private boolean readNested(int nested) {
             if (nested >= MOST_NESTED) {
                 return fail(BEYOND_MOST);
             }
-            at++;
-            if (first == '[') {
+            boolean bracket = tokens.kind == '[';
+            tokens.next();
+            if (bracket) {
                 return readTruth(nested + 1) && skip(']');
             }
             if (!readUnit(nested + 1)) {
@@ -1224,29 +1240,13 @@ public final class RibbonRoads {
             return true;
         }
 
-        private boolean readComparison(int nested) {
-            if (!readSum(nested)) {
-                return false;
-            }
-            int sign = kind();
-            if (sign != '=' && sign != '<' && sign != '>') {
-                return fail(MISPLACED);
-            }
-            at++;
-            if (!readSum(nested)) {
-                return false;
-            }
-            law.add(sign == '=' ? Law.EQUAL : sign == '<' ? Law.LESS : Law.MORE);
-            return true;
-        }
-
         private boolean readSum(int nested) {
             if (!readTerm(nested)) {
                 return false;
             }
-            for (int n = 0; n < MOST_BYTES && (kind() == '+' || kind() == '-'); n++) {
-                int sign = kind();
-                at++;
+            for (int n = 0; n < MOST_BYTES && (tokens.kind == '+' || tokens.kind == '-'); n++) {
+                int sign = tokens.kind;
+                tokens.next();
                 if (!readTerm(nested)) {
                     return false;
                 }
@@ -1259,8 +1259,8 @@ public final class RibbonRoads {
             if (!readAtom(nested)) {
                 return false;
             }
-            for (int n = 0; n < MOST_BYTES && kind() == '*'; n++) {
-                at++;
+            for (int n = 0; n < MOST_BYTES && tokens.kind == '*'; n++) {
+                tokens.next();
                 if (!readAtom(nested)) {
                     return false;
                 }
@@ -1270,26 +1270,26 @@ public final class RibbonRoads {
         }
 
         private boolean readAtom(int nested) {
-            if (kind() == '(') {
+            if (tokens.kind == '(') {
                 if (nested >= MOST_NESTED) {
                     return fail(BEYOND_MOST);
                 }
-                at++;
+                tokens.next();
                 return readSum(nested + 1) && skip(')');
             }
-            int part = partOf(kind());
+            int part = partOf(tokens.kind);
             if (part == NONE) {
                 return fail(MISPLACED);
             }
             law.add(part);
-            at++;
+            tokens.next();
             return true;
         }
 
         /** What a token adds to the law as an atom, NONE if it is none. */
         private int partOf(int kind) {
             switch (kind) {
-                case Tokens.NUMBER: return tokens.value(at);
+                case Tokens.NUMBER: return tokens.value;
                 case Tokens.X: return Law.X;
                 case Tokens.Y: return Law.Y;
                 case Tokens.WET: return Law.WET;
@@ -1401,7 +1401,7 @@ public final class RibbonRoads {
 
         /** Whether the ribbon of a drum could lie on a cell, the law may aside. */
         boolean isOpen(Land land, int d, int k) {
-            return land.hasCell(k) && land.kinds[k] == 0 && lying(k) < 2 && upper[k] != d;
+            return k >= 0 && k < MOST_CELLS && land.kinds[k] == 0 && lying(k) < 2 && upper[k] != d;
         }
 
         // Deeds: why one can't be, and doing it if it can, which answers the same.
